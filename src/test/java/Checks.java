@@ -8,8 +8,14 @@ final class Checks {
     static final int MAX = Integer.MAX_VALUE;
 
     private static int wrong = 0;
+    private static String sentence = "";
 
     private Checks() {
+    }
+
+    /** The document's sentence that the following checks stand for; a fault is told with it. */
+    static void sentence(String text) {
+        sentence = text;
     }
 
     static void due(String call, long got, long want) {
@@ -32,7 +38,7 @@ final class Checks {
 
     static void fault(String text) {
         wrong++;
-        System.out.println(text);
+        System.out.println(sentence.isEmpty() ? text : "\"" + sentence + "\": " + text);
     }
 
     static boolean anyWrong() {
